@@ -65,10 +65,8 @@ public final class ShingleHouse {
     private int who;
 
     public ShingleHouse(int bands, int tracks, int shingles, int cache) {
-        int bandCount = Math.max(4, Math.min(8, bands));
-        Disk newDisk = new Disk(bandCount, Math.max(8, Math.min(32, tracks)), Math.max(1, Math.min(4, shingles)),
-                Math.max(64, Math.min(256, cache)));
-        Volume newVolume = new Volume(newDisk, bandCount);
+        Disk newDisk = new Disk(bands, tracks, shingles, cache);
+        Volume newVolume = new Volume(newDisk);
         Store newStore = new Store(newDisk, newVolume);
         Space newSpace = new Space(newDisk, newStore);
         Nodes newNodes = new Nodes(newStore, newSpace.firstNode);
@@ -612,6 +610,7 @@ public final class ShingleHouse {
 
     /** Bands, SCRATCH and THE CACHE, the WRITES that are done there, and the CUT that ends them. */
     private static final class Disk {
+        final int bands;
         final int tracks;
         final int shingles;
         final int bandSize;
@@ -630,12 +629,13 @@ public final class ShingleHouse {
         int misreads;
 
         Disk(int bands, int tracks, int shingles, int places) {
-            this.tracks = tracks;
-            this.shingles = shingles;
-            this.bandSize = 8 * tracks;
-            this.sectors = bands * bandSize;
-            this.places = places;
-            this.cells = new long[(sectors + bandSize + places) * WORDS];
+            this.bands = Math.max(4, Math.min(8, bands));
+            this.tracks = Math.max(8, Math.min(32, tracks));
+            this.shingles = Math.max(1, Math.min(4, shingles));
+            this.bandSize = 8 * this.tracks;
+            this.sectors = this.bands * bandSize;
+            this.places = Math.max(64, Math.min(256, places));
+            this.cells = new long[(sectors + bandSize + this.places) * WORDS];
             this.lost = new boolean[sectors + bandSize];
             this.on = true;
             this.cut = NONE;
@@ -758,10 +758,10 @@ public final class ShingleHouse {
         int streamed;
         int bandsDone;
 
-        Volume(Disk disk, int bands) {
+        Volume(Disk disk) {
             this.disk = disk;
-            this.marks = new int[bands];
-            this.tally = new int[bands];
+            this.marks = new int[disk.bands];
+            this.tally = new int[disk.bands];
             this.holds = new int[disk.places];
             this.latest = new int[disk.sectors];
             this.page = new long[WORDS];
