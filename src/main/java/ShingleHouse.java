@@ -753,6 +753,7 @@ public final class ShingleHouse {
         int tail;
         int cleanBand;
         int limit;
+        /** From SAFE to DONE alone: so never while the CLEANER is idle. */
         boolean safe;
         int track;
         int streamed;
@@ -903,7 +904,6 @@ public final class ShingleHouse {
             cleanBand = most;
             limit = head;
             track = 0;
-            safe = false;
             return true;
         }
 

@@ -1108,6 +1108,7 @@ public final class ModelTest {
         final int users;
         final int cuts;
         final int big;
+        final boolean laying;
         final StringBuilder story = new StringBuilder();
         final int[] seen;
         int calls;
@@ -1132,6 +1133,23 @@ public final class ModelTest {
             users = random.nextInt(3) == 0 ? 4 : 1;
             cuts = random.nextInt(3) == 0 ? 0 : 4 + random.nextInt(30);
             big = random.nextInt(3);
+            laying = random.nextInt(4) == 0;
+        }
+
+        /** A run in which the power fails once, at WRITE n. */
+        Run(int number, int[] seen, int n) {
+            this.number = number;
+            this.seen = seen;
+            random = new Random(number);
+            house = new ShingleHouse(5, 8, 2, 64);
+            model = new Model(5, 8, 2, 64);
+            names = new long[] {97, 98, 99, 100, 101, 102};
+            users = 1;
+            cuts = 0;
+            big = 1;
+            laying = number % 2 == 0;
+            model.planned = n;
+            house.power(n);
         }
 
         long randomName() {
@@ -1243,7 +1261,22 @@ public final class ModelTest {
             same("power(" + n + ")", house.power(n) ? 1 : 0, model.on ? 1 : 0);
         }
 
+        void layMore() {
+            int laid = someNode(3);
+            switch (random.nextInt(6)) {
+                case 0: feedBytes(60); ask(LAY, someNode(2), someName(), 0, 0); break;
+                case 1: case 2: feedBytes(60); ask(PUT, laid, 0, random.nextInt(model.node(laid).size + 1), 0); break;
+                case 3: ask(SYNC, 0, 0, 0, 0); break;
+                case 4: ask(DROP, 0, someName(), 0, 0); break;
+                default: ask(BYTE, laid, 0, random.nextInt(model.node(laid).size + 1), 0); break;
+            }
+        }
+
         void change() {
+            if (laying && random.nextBoolean()) {
+                layMore();
+                return;
+            }
             int dir = someNode(2);
             switch (random.nextInt(20)) {
                 case 0: case 1: case 2: ask(MAKE, dir, someName(), 0, 0); break;
@@ -1404,6 +1437,21 @@ public final class ModelTest {
         }
     }
 
+    /** The same calls over and over, with the power failing at every one of their WRITES in turn. */
+    static int failEverywhere(int number, int[] seen) {
+        for (int n = 0; n < 100000; n++) {
+            Run run = new Run(number, seen, n);
+            if (!run.isRight()) {
+                System.out.println("with the power failing at WRITE " + n);
+                return 1;
+            }
+            if (run.model.planned != NONE) {
+                return 0;
+            }
+        }
+        return 1;
+    }
+
     public static void main(String[] args) {
         int bad = 0;
         int runs = args.length > 0 ? Integer.parseInt(args[0]) : RUNS;
@@ -1412,6 +1460,9 @@ public final class ModelTest {
             if (!new Run(i, seen).isRight()) {
                 bad++;
             }
+        }
+        for (int number = 1; number <= 4; number++) {
+            bad += failEverywhere(number, seen);
         }
         if (args.length > 0) {
             for (int i = 0; i < OPS.length; i++) {

@@ -361,6 +361,32 @@ public final class PromisesTest {
         promise7Full();
         promise7Cleaner();
         promise7Cut();
+        promise7Anew();
+    }
+
+    /** What THE CACHE still has of a band is older than what is STREAMED there. */
+    static void promise7Anew() {
+        ShingleHouse x = new ShingleHouse(4, 8, 1, 256);
+        feed(x, "a").lay(0, n("a"));
+        x.sync();
+        put(x, 1, 0, "old");
+        x.sync();
+        due("LIVE", x.where(192) >= 0, true);
+        x.drop(0, n("a"));
+        x.sync();
+        due("LIVE still", x.where(192) >= 0, true);
+        feed(x, "b").lay(0, n("b"));
+        due("not LIVE", x.where(192), NONE);
+        due("byte", x.byteAt(1, 0), 'b');
+        x.sync();
+        put(x, 1, 1, "new");
+        x.sync();
+        due("LIVE", x.where(192) >= 0, true);
+        due("byte", x.byteAt(1, 0), 'b');
+        due("byte", x.byteAt(1, 1), 'n');
+        x.restore();
+        due("byte", x.byteAt(1, 1), 'n');
+        due("byte", x.byteAt(1, 4), 'b');
     }
 
     static void promise7Full() {
@@ -559,6 +585,7 @@ public final class PromisesTest {
         promise10Far();
         promise10Laid();
         promise10Full();
+        promise10Map();
     }
 
     static void promise10Far() {
@@ -629,6 +656,47 @@ public final class PromisesTest {
         due("no BLOCK", put(x, 4, 0, "a"), -16);
         due("-15 ahead of -16", put(x, 4, -1, "a"), -15);
         due("none is wanted", put(x, 4, 64 * 44, "a"), 1);
+        due("check", x.check(), 0);
+        x.cut(4, 0);
+        due("DOUBLE, INDEX 1, a BLOCK", put(x, 4, 64 * 76, 64), 64);
+        due("none is free", x.count(8), 0);
+        x.cut(4, 0);
+        put(x, 4, 0, "a");
+        due("DOUBLE, INDEX 0, a BLOCK, of which two are there", put(x, 4, 64 * 44, "a"), -16);
+        put(x, 4, 64, "a");
+        due("INDEX, a BLOCK, of which one is there", put(x, 4, 64 * 12, "a"), -16);
+        due("one is there", put(x, 4, 64 * 11, "a"), 1);
+        due("check", x.check(), 0);
+    }
+
+    /** BLOCKS from 512 on are told by THE MAP's second SECTOR and those behind it. */
+    static void promise10Map() {
+        ShingleHouse x = new ShingleHouse(8, 32, 1, 256);
+        for (int i = 0; i < 7; i++) {
+            due("lay", feed(x, "a").lay(0, n("l" + i)), i + 1);
+        }
+        due("a band of 512 and more", x.block(6, 0), 512);
+        x.make(0, n("f"));
+        x.make(0, n("g"));
+        for (int i = 0; x.count(8) > 1 && i < 60; i++) {
+            put(x, i < 20 ? 8 : 9, 128 * (i % 20) + 60, 8);
+        }
+        while (x.count(8) > 0) {
+            put(x, 9, 64 * (60 + x.count(8)), 1);
+        }
+        x.sync();
+        due("given back", x.drop(0, n("l5")), 256);
+        due("DIRTY: NODE, SLOTS, THE MAP's second", x.count(7), 3);
+        due("DIRTY now", x.sync(), 3);
+        int size = x.size(9);
+        put(x, 9, (size + 63) / 64 * 64, 64);
+        due("the lowest", x.block(9, (size + 63) / 64), 512);
+        due("lay: not that band", feed(x, "a").lay(0, n("m")), -16);
+        due("check", x.check(), 0);
+        x.sync();
+        due("THE MAP's second", x.where(81) >= 0, true);
+        x.restore();
+        due("free", x.count(8), 255);
         due("check", x.check(), 0);
     }
 
@@ -1270,6 +1338,35 @@ public final class PromisesTest {
         due("TORN and destroyed in SCRATCH: of TRACK 1 all but two, and TRACK 2", x.count(12), 14);
         x.restore();
         due("idle", x.count(14), NONE);
+        promise30Cuts();
+    }
+
+    /** At whatever STEP the power fails, it answers OFF, and what it was at is as the RECORD tells that counts. */
+    static void promise30Cuts() {
+        int[] kinds = {1, 2, 3, 4, 5, 6};
+        for (int kind : kinds) {
+            ShingleHouse x = small();
+            for (int i = 0; i < 5; i++) {
+                x.mode(0, i);
+                x.sync();
+            }
+            for (int i = 0; i < 30 && x.count(15) != kind; i++) {
+                x.clean();
+            }
+            due("next", x.count(15), kind);
+            int free = x.count(5);
+            int records = x.count(3);
+            x.power(0);
+            due("CUT at STEP " + kind, x.clean(), OFF);
+            due("no RECORD more", x.count(3), records);
+            due("RESTORE", x.restore(), kind < 5 ? 1 : 64 + 1 + 1);
+            due("idle", x.count(14), NONE);
+            due("FREE", x.count(5), kind < 5 ? free - 1 : 62);
+            due("MARK", x.mark(0), kind < 5 ? 0 : 20);
+            due("MARK", x.mark(1), 0);
+            due("check", x.check(), 0);
+            due("mode", x.rights(0, 1), 4);
+        }
     }
 
     static void promise31() {
