@@ -788,7 +788,8 @@ public final class ShingleHouse {
         boolean isLive(int q) {
             int place = q % disk.places;
             int x = place >= 0 && place < holds.length ? holds[place] : NONE;
-            return x >= 0 && x < latest.length && latest[x] == q && q >= marks[x / disk.bandSize];
+            int band = x / disk.bandSize;
+            return x >= 0 && x < latest.length && band < marks.length && latest[x] == q && q >= marks[band];
         }
 
         int liveEntries() {
@@ -891,8 +892,10 @@ public final class ShingleHouse {
             }
             Arrays.fill(tally, 0);
             for (int q = tail; q < head; q++) {
-                if (isLive(q)) {
-                    tally[holds[q % disk.places] / disk.bandSize]++;
+                int place = q % disk.places;
+                int band = place >= 0 && place < holds.length ? holds[place] / disk.bandSize : NONE;
+                if (band >= 0 && band < tally.length && isLive(q)) {
+                    tally[band]++;
                 }
             }
             int most = 0;
@@ -1124,7 +1127,7 @@ public final class ShingleHouse {
             }
             int n = 0;
             for (int x = 0; x < dirty.length; x++) {
-                if (dirty[x]) {
+                if (dirty[x] && n < chosen.length) {
                     chosen[n] = x;
                     n++;
                 }

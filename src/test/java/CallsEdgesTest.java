@@ -531,6 +531,12 @@ public final class CallsEdgesTest extends Edges {
         due("no NAME is left", h.size(0), 0);
         due("free but for the root's two", h.count(8), 576 - 146 - 2);
         due("check", h.check(), 0);
+        House l = House.large();
+        l.lay(0, "l", "x");
+        l.lay(0, "m", "x");
+        due("a band of SECTORS 1792 .. 2047", l.drop(0, "l"), 256);
+        due("the other one stays used", l.count(8), 2048 - 148 - 256 - 1);
+        due("check", l.check(), 0);
     }
 
     @Sentence(of = "12", is = "What has LINKS left stays (0 then); else its NODE is free.")

@@ -132,11 +132,12 @@ public final class FilesEdgesTest extends Edges {
     static void laid() {
         for (int t : new int[] {8, 9, 32}) {
             House h = new House(4, t, 1, 64);
+            int free = h.count(8);
             due("lay", h.lay(0, "l", "abc"), 1);
             due("size", h.size(1), 512 * t);
             due("the last byte", h.byteAt(1, 512 * t - 1), "abc".charAt((512 * t - 1) % 3));
             due("behind it", h.byteAt(1, 512 * t), NONE);
-            due("BLOCKS: SLOTS and the band", h.count(8), 32 * t - h.scrub());
+            due("BLOCKS: SLOTS and the band", h.count(8), free - 1 - 8 * t);
         }
     }
 
@@ -397,6 +398,12 @@ public final class FilesEdgesTest extends Edges {
         h.restore();
         due("none is free", h.count(8), 0);
         due("check", h.check(), 0);
+        due("the last of the first 512 of THE MAP, and all behind", h.cut(6, 64 * 19), 9);
+        due("the one ahead is used still", h.block(6, 18), 510);
+        due("free", h.count(8), 9);
+        due("check", h.check(), 0);
+        h.put(6, 64 * 19, "x");
+        due("the lowest", h.block(6, 19), 511);
     }
 
     /** The BLOCKS from 208 on are laid, up to 415. */
@@ -595,7 +602,8 @@ public final class FilesEdgesTest extends Edges {
                 due("DONE", h.count(4), behind ? done + 1 : done);
                 due("MARK", h.mark(0), steps >= t + 2 ? 10 : 0);
                 due("destroyed in the band or SCRATCH", h.count(12) == 0, steps < 2 || steps > t);
-                due("read, destroyed", h.scrub() + 1000 * h.count(11), 146);
+                due("read", h.scrub(), 146);
+                due("read, destroyed", h.count(11), 0);
                 due("check", h.check(), 0);
             }
         }
