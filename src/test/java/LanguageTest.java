@@ -42,6 +42,7 @@ import java.util.TreeSet;
 import javax.lang.model.element.Element;
 import javax.lang.model.element.ElementKind;
 import javax.lang.model.element.VariableElement;
+import javax.lang.model.type.ArrayType;
 import javax.lang.model.type.TypeKind;
 import javax.lang.model.type.TypeMirror;
 import javax.tools.JavaCompiler;
@@ -138,10 +139,9 @@ public final class LanguageTest {
         @Override
         public Void visitVariable(VariableTree tree, Void none) {
             TypeMirror type = trees.getTypeMirror(getCurrentPath());
-            boolean row = type.getKind() == TypeKind.ARRAY;
             boolean plain = type.getKind().isPrimitive() && type.getKind() != TypeKind.DOUBLE
                 && type.getKind() != TypeKind.FLOAT;
-            boolean plainRow = row && ((javax.lang.model.type.ArrayType) type).getComponentType().getKind().isPrimitive();
+            boolean plainRow = type instanceof ArrayType row && row.getComponentType().getKind().isPrimitive();
             boolean own = type.toString().startsWith("ShingleHouse.");
             expect(3, at(tree) + " is of another type", plain || plainRow || own);
             if (tree.getModifiers().getFlags().contains(javax.lang.model.element.Modifier.STATIC)) {
@@ -197,7 +197,8 @@ public final class LanguageTest {
         @Override
         public Void visitNewArray(NewArrayTree tree, Void none) {
             expect(12, at(tree) + " is made by a call", inConstructor());
-            expect(3, at(tree) + " has another form", tree.getDimensions().size() == 1 && tree.getInitializers() == null);
+            boolean oneRow = tree.getDimensions().size() == 1 && tree.getInitializers() == null;
+            expect(3, at(tree) + " has another form", oneRow);
             return super.visitNewArray(tree, none);
         }
 

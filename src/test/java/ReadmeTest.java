@@ -30,6 +30,10 @@ public final class ReadmeTest {
         return "\"" + text.replace("\\", "\\\\").replace("\"", "\\\"") + "\"";
     }
 
+    static String asked(String call, String answer) {
+        return "due(" + quoted(call) + ", " + call + ", " + quoted(answer) + ");";
+    }
+
     static String program(List<String> examples) {
         StringBuilder methods = new StringBuilder();
         StringBuilder body = new StringBuilder();
@@ -40,9 +44,7 @@ public final class ReadmeTest {
             }
             for (String line : example.split("\\n")) {
                 Matcher m = ANSWERED.matcher(line);
-                boolean answered = m.matches();
-                body.append(answered ? "due(" + quoted(m.group(1)) + ", " + m.group(1) + ", " + quoted(m.group(2)) + ");"
-                    : line).append('\n');
+                body.append(m.matches() ? asked(m.group(1), m.group(2)) : line).append('\n');
             }
         }
         return "public final class ReadmeRun {\n"
@@ -62,8 +64,8 @@ public final class ReadmeTest {
         Path source = work.resolve("ReadmeRun.java");
         Files.writeString(source, program(examples(Files.readString(Path.of("README.md")))));
         JavaCompiler compiler = ToolProvider.getSystemJavaCompiler();
-        int refused = compiler.run(null, null, null, "-cp", System.getProperty("java.class.path"), "-d", work.toString(),
-            source.toString());
+        String classes = System.getProperty("java.class.path");
+        int refused = compiler.run(null, null, null, "-cp", classes, "-d", work.toString(), source.toString());
         int asked = 0;
         int wrong = refused;
         if (refused == 0) {
